@@ -40,6 +40,7 @@ public final class MarkTest {
             totals[kind] = x.total(good, kind);
         }
         int version = x.version(good);
+        Due.is("a question about another good between", x.total(2, 0), 0);
         for (long key : keys) {
             BigInteger due = markOf(key, totals, version);
             for (int i = 0; i < 8; i++) {

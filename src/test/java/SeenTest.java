@@ -8,6 +8,7 @@ public final class SeenTest {
         masked();
         ownPartsAlone();
         byLastDay();
+        allParts();
         wrong();
         Due.end();
     }
@@ -89,6 +90,19 @@ public final class SeenTest {
         sees(x, 3, 0, 0, 2, 11, 150);
         sees(x, 3, 0, 1, 2, 20, 7);
         sees(x, 3, 0, 2, 0, 12, 8);
+    }
+
+    private static void allParts() {
+        MaterialPassports x = Due.withGoods(8);
+        for (int number = 0; number < 24; number++) {
+            Due.is("part", x.part(7, number % 2, number, number), number);
+        }
+        sees(x, 7, 7, 23, 1, 144, MASKED);
+        sees(x, 7, 7, 0, 0, 132, MASKED);
+        x.right(7, 7, true);
+        sees(x, 7, 7, 23, 1, 23, 23);
+        Due.is("k 24", x.seen(7, 7, 24, 0), NONE);
+        Due.is("a good without parts", x.seen(7, 0, 0, 0), NONE);
     }
 
     private static void wrong() {
