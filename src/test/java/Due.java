@@ -1,16 +1,22 @@
 /** Counts and prints the answers that are not the due ones. */
 final class Due {
+    private static String sentence = "";
     private static int checked = 0;
     private static int wrong = 0;
 
     private Due() {
     }
 
+    /** The document's words that the next answers are looked at for. */
+    static void sentence(String words) {
+        sentence = "\"" + words + "\": ";
+    }
+
     static void is(String call, long got, long want) {
         checked++;
         if (got != want) {
             wrong++;
-            System.out.println(call + " answered " + got + ", due is " + want);
+            System.out.println(sentence + call + " answered " + got + ", due is " + want);
         }
     }
 
@@ -31,13 +37,25 @@ final class Due {
         is("score() of '" + text + "'", x.score(), want);
     }
 
-    /** An object with so many goods. */
-    static MaterialPassports withGoods(int goods) {
-        MaterialPassports x = new MaterialPassports();
-        for (int i = 0; i < goods; i++) {
-            is("good()", x.good(), i);
+    /** Tells a well formula and looks at its value for good 0. */
+    static void value(MaterialPassports x, String text, long want) {
+        score(x, text, text.trim().split("[ \n]+").length);
+        is("scored(0) by '" + text + "'", x.scored(0), want);
+    }
+
+    /** Looks at a good's total of each kind. */
+    static void totals(MaterialPassports x, int good, long... byKind) {
+        for (int kind = 0; kind < byKind.length; kind++) {
+            is("total(" + good + ", " + kind + ")", x.total(good, kind), byKind[kind]);
         }
-        return x;
+    }
+
+    /** Looks at what a person sees of a part: its kind, grams and life. */
+    static void sees(MaterialPassports x, int person, int good, int k, long... byWhat) {
+        for (int what = 0; what < byWhat.length; what++) {
+            String call = "seen(" + person + ", " + good + ", " + k + ", " + what + ")";
+            is(call, x.seen(person, good, k, what), byWhat[what]);
+        }
     }
 
     /** Ends the program, with 1 if an answer was wrong. */
