@@ -10,7 +10,7 @@ public final class CallsTest {
     }
 
     private static void lastCalls() {
-        Due.sentence("An object is used for at most 512 calls: the 511th and the 512th");
+        Due.sentence("An object is used for at most 512 calls after it has been made", "the 511th and the 512th");
         MaterialPassports x = Scene.oneGood(5);
         for (int call = 3; call <= 510; call++) {
             Due.is("call " + call, x.life(0, call % 201), true);
@@ -20,7 +20,7 @@ public final class CallsTest {
     }
 
     private static void lastBytes() {
-        Due.sentence("An object is used for at most 512 calls: two texts");
+        Due.sentence("An object is used for at most 512 calls after it has been made", "two texts");
         MaterialPassports x = Scene.goods(1);
         Due.score(x, "1 ".repeat(75) + "+ ".repeat(74) + "  ", 149);
         Due.score(x, "2 ".repeat(52) + "* ".repeat(51) + " ", 103);
@@ -29,7 +29,7 @@ public final class CallsTest {
     }
 
     private static void laterCallsEnd() {
-        Due.sentence("what later calls answer is free: they only must not throw");
+        Due.sentence("what later calls answer is free", "they only must not throw");
         MaterialPassports x = Scene.full();
         for (int i = -MANY; i < MANY; i++) {
             x.good();

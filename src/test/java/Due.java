@@ -7,9 +7,14 @@ final class Due {
     private Due() {
     }
 
-    /** The document's words that the next answers are looked at for. */
+    /** The document's own words that the next answers are looked at for; " ... " stands for words left out. */
     static void sentence(String words) {
         sentence = "\"" + words + "\": ";
+    }
+
+    /** The document's own words, and in which respect the next answers are looked at for them. */
+    static void sentence(String words, String respect) {
+        sentence = "\"" + words + "\" (" + respect + "): ";
     }
 
     static void is(String call, long got, long want) {

@@ -5,6 +5,8 @@ public final class Promise03Test {
 
     public static void main(String[] args) {
         numbers();
+        ofItsGood();
+        newPartHasNothingElse();
         twentyFourOfOneGood();
         twentyFourOfAllGoods();
         twentyFifthChangesNothing();
@@ -17,7 +19,7 @@ public final class Promise03Test {
     }
 
     private static void numbers() {
-        Due.sentence("PARTS are numbered from 0 on");
+        Due.sentence("Answers its number ... PARTS are numbered from 0 on");
         MaterialPassports x = Scene.goods(3);
         Due.is("first", x.part(2, 0, 1, 1), 0);
         Due.is("of another good", x.part(0, 0, 2, 1), 1);
@@ -54,13 +56,13 @@ public final class Promise03Test {
     }
 
     private static void twentyFifthChangesNothing() {
-        Due.sentence("NONE when there are 24; a call that is refused changes nothing");
+        Due.sentence("NONE when there are 24 ... A call that is refused changes nothing");
         Refused.none("25th part", Scene::full, x -> x.part(0, 0, 1, 1));
         Refused.none("25th part of the last good", Scene::full, x -> x.part(7, 4, 0, 0));
     }
 
     private static void goods() {
-        Due.sentence("One more part of a good .. NONE when .. these are not such: good");
+        Due.sentence("One more part of a good ... or these are not such", "good");
         for (int count = 1; count <= 8; count++) {
             MaterialPassports x = Scene.goods(count);
             Due.is("good -1", x.part(-1, 0, 1, 1), NONE);
@@ -74,7 +76,7 @@ public final class Promise03Test {
     }
 
     private static void kinds() {
-        Due.sentence("KIND 0 .. 4");
+        Due.sentence("of a KIND 0 .. 4 ... or these are not such");
         for (int kind = 0; kind <= 4; kind++) {
             MaterialPassports x = Scene.goods(1);
             Due.is("kind " + kind, x.part(0, kind, 5, 1), 0);
@@ -87,7 +89,7 @@ public final class Promise03Test {
     }
 
     private static void grams() {
-        Due.sentence("grams 0 .. 1000000000");
+        Due.sentence("of grams ... grams 0 .. 1000000000 ... or these are not such");
         for (long grams : Edge.insideLongs(0, MOST_GRAMS)) {
             MaterialPassports x = Scene.goods(1);
             Due.is("grams " + grams, x.part(0, 2, grams, 1), 0);
@@ -100,7 +102,7 @@ public final class Promise03Test {
     }
 
     private static void lives() {
-        Due.sentence("life 0 .. 200");
+        Due.sentence("with a LIFE in years ... life 0 .. 200 ... or these are not such");
         for (int life : Edge.inside(0, 200)) {
             MaterialPassports x = Scene.goods(1);
             Due.is("life " + life, x.part(0, 2, 5, life), 0);
@@ -114,7 +116,7 @@ public final class Promise03Test {
     }
 
     private static void refusedTakesNoNumber() {
-        Due.sentence("A call that is refused changes nothing: the next part's number");
+        Due.sentence("A call that is refused changes nothing", "the next part's number");
         MaterialPassports x = Scene.goods(1);
         for (int number = 0; number < 24; number++) {
             Due.is("good", x.part(1, 0, 1, 1), NONE);
@@ -124,5 +126,33 @@ public final class Promise03Test {
             Due.is("part", x.part(0, 0, 1, 1), number);
         }
         Due.is("version", x.version(0), 24);
+    }
+
+    private static void ofItsGood() {
+        Due.sentence("One more part of a good ... each of a good");
+        for (int turn = 1; turn < 8; turn += 2) {
+            MaterialPassports x = Scene.goods(8);
+            int[] own = new int[8];
+            for (int number = 0; number < 24; number++) {
+                int good = number * turn % 8;
+                Due.is("part", x.part(good, number % 5, 100 + number, number), number);
+                Due.is("version(" + good + ")", x.version(good), own[good] + 1);
+                x.right(0, good, true);
+                Due.sees(x, 0, good, own[good], number % 5, 100 + number, number);
+                own[good]++;
+                Due.is("no more parts", x.seen(0, good, own[good], 0), NONE);
+            }
+        }
+    }
+
+    private static void newPartHasNothingElse() {
+        Due.sentence("One more part of a good", "without an inner good and changes");
+        MaterialPassports x = Scene.some();
+        Due.is("part", x.part(2, 1, 40, 3), 6);
+        Due.totals(x, 2, 0, 40, 11, 0, 0);
+        Due.is("totalOn(2, 1, 0)", x.totalOn(2, 1, 0), 40);
+        Due.is("frees(1, 3)", x.frees(1, 3), 40);
+        Due.is("into", x.into(6, 0), true);
+        Due.totals(x, 2, 100, 40, 11, 310, 67);
     }
 }

@@ -3,6 +3,7 @@ public final class Promise04Test {
     public static void main(String[] args) {
         materialsBesidesOwnGrams();
         partsToldLater();
+        eachPartAndInner();
         parts();
         inners();
         hasOne();
@@ -46,7 +47,7 @@ public final class Promise04Test {
     }
 
     private static void partsToldLater() {
-        Due.sentence("A part is (or has) an inner good from now on");
+        Due.sentence("A part is (or has) an inner good from now on ... (its INNER one, told later)");
         MaterialPassports x = Scene.goods(2);
         x.part(0, 0, 1, 1);
         Due.is("a good without parts", x.into(0, 1), true);
@@ -59,7 +60,7 @@ public final class Promise04Test {
     }
 
     private static void parts() {
-        Due.sentence("false when there are none such: part");
+        Due.sentence("false when there are none such", "part");
         MaterialPassports x = onePartEach(3);
         Due.is("part 0", x.into(0, 1), true);
         Due.is("part 2, the last", x.into(2, 1), true);
@@ -71,7 +72,7 @@ public final class Promise04Test {
     }
 
     private static void inners() {
-        Due.sentence("false when there are none such: inner");
+        Due.sentence("false when there are none such", "inner");
         MaterialPassports x = onePartEach(3);
         Due.is("inner 0", x.into(1, 0), true);
         Due.is("inner 2, the last", x.into(0, 2), true);
@@ -82,7 +83,7 @@ public final class Promise04Test {
     }
 
     private static void hasOne() {
-        Due.sentence("false when .. it has one");
+        Due.sentence("false when ... it has one");
         Refused.isFalse("another one", Scene::some, x -> x.into(0, 2));
         Refused.isFalse("the same one", Scene::some, x -> x.into(0, 1));
         MaterialPassports x = Scene.some();
@@ -91,7 +92,7 @@ public final class Promise04Test {
     }
 
     private static void inItselfAtOnce() {
-        Due.sentence("false when .. a good would be in itself");
+        Due.sentence("false when ... or a good would be in itself");
         Refused.isFalse("its own good", Scene::some, x -> x.into(1, 0));
         for (int good = 0; good < 8; good++) {
             int own = good;
@@ -100,13 +101,13 @@ public final class Promise04Test {
     }
 
     private static void inItselfByTwo() {
-        Due.sentence("No good is in itself, part by part: by two");
+        Due.sentence("No good is in itself, part by part", "by two");
         Refused.isFalse("1 is in 0", () -> chain(2), x -> x.into(1, 0));
         Refused.isFalse("1 is in 0", Scene::some, x -> x.into(3, 0));
     }
 
     private static void inItselfByAllGoods() {
-        Due.sentence("No good is in itself, part by part: by all");
+        Due.sentence("No good is in itself, part by part", "by all");
         for (int goods = 3; goods <= 8; goods++) {
             int count = goods;
             for (int inner = 0; inner < goods; inner++) {
@@ -122,7 +123,7 @@ public final class Promise04Test {
     }
 
     private static void refusedPartMayHaveAnother() {
-        Due.sentence("A call that is refused changes nothing: the part still has none");
+        Due.sentence("A call that is refused changes nothing", "the part still has none");
         MaterialPassports x = onePartEach(3);
         Due.is("itself", x.into(0, 0), false);
         Due.is("none such", x.into(0, 3), false);
@@ -134,7 +135,7 @@ public final class Promise04Test {
     }
 
     private static void inSeveral() {
-        Due.sentence("for each of its parts with an inner good that good's total");
+        Due.sentence("a part may BE a good ... for each of its parts with an inner good that good's total");
         MaterialPassports x = Scene.goods(4);
         for (int good = 0; good < 4; good++) {
             x.part(good, good, 10, 1);
@@ -152,7 +153,7 @@ public final class Promise04Test {
     }
 
     private static void manyTimes() {
-        Due.sentence("for each of its parts with an inner good that good's total: the greatest");
+        Due.sentence("for each of its parts with an inner good that good's total", "the greatest");
         MaterialPassports x = Scene.goods(8);
         long due = 0;
         for (int good = 0; good < 8; good++) {
@@ -164,5 +165,23 @@ public final class Promise04Test {
             Due.is("total of good " + good, x.total(good, 4), due);
         }
         Due.is("9840 times", x.total(7, 4), 9840000000000L);
+    }
+
+    private static void eachPartAndInner() {
+        Due.sentence("A part is (or has) an inner good from now on. Answers true", "each one");
+        for (int number = 0; number < 24; number++) {
+            for (int inner = 0; inner < 8; inner++) {
+                MaterialPassports x = Scene.goods(8);
+                for (int part = 0; part < 24; part++) {
+                    x.part(part % 8, part / 8, 1 + part, 1);
+                }
+                int owner = number % 8;
+                Due.is("into(" + number + ", " + inner + ")", x.into(number, inner), owner != inner);
+                for (int good = 0; good < 8; good++) {
+                    long within = good == owner && owner != inner ? 1 + inner : 0;
+                    Due.is("total(" + good + ", 0)", x.total(good, 0), 1 + good + within);
+                }
+            }
+        }
     }
 }

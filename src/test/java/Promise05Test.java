@@ -2,6 +2,7 @@
 public final class Promise05Test {
     public static void main(String[] args) {
         becomesAnother();
+        eachPart();
         theSame();
         parts();
         years();
@@ -24,7 +25,7 @@ public final class Promise05Test {
     }
 
     private static void theSame() {
-        Due.sentence("Answers true: a life that it has already");
+        Due.sentence("Answers true", "a life that it has already");
         MaterialPassports x = Scene.goods(1);
         x.part(0, 2, 30, 10);
         Due.is("the same", x.life(0, 10), true);
@@ -33,7 +34,7 @@ public final class Promise05Test {
     }
 
     private static void parts() {
-        Due.sentence("Answers true, or false: part");
+        Due.sentence("Answers true, or false", "part");
         MaterialPassports x = Scene.some();
         Due.is("part 0", x.life(0, 77), true);
         Due.is("part 5, the last", x.life(5, 78), true);
@@ -47,7 +48,7 @@ public final class Promise05Test {
     }
 
     private static void years() {
-        Due.sentence("life 0 .. 200");
+        Due.sentence("Answers true, or false ... life 0 .. 200", "years");
         for (int years : Edge.inside(0, 200)) {
             MaterialPassports x = Scene.some();
             Due.is("life " + years, x.life(4, years), true);
@@ -58,6 +59,22 @@ public final class Promise05Test {
         }
         for (int wrong : Edge.outside(0, 200)) {
             Refused.isFalse("life " + wrong, Scene::some, y -> y.life(4, wrong));
+        }
+    }
+
+    private static void eachPart() {
+        Due.sentence("A part's life becomes another one", "each part's, and no other's");
+        MaterialPassports x = Scene.full();
+        for (int good = 0; good < 8; good++) {
+            x.right(0, good, true);
+        }
+        for (int number = 0; number < 24; number++) {
+            Due.is("before", x.seen(0, number % 8, number / 8, 2), number);
+            Due.is("life", x.life(number, 200 - number), true);
+            Due.is("behind", x.seen(0, number % 8, number / 8, 2), 200 - number);
+        }
+        for (int number = 0; number < 24; number++) {
+            Due.is("at last", x.seen(0, number % 8, number / 8, 2), 200 - number);
         }
     }
 }

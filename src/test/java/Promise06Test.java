@@ -4,6 +4,7 @@ public final class Promise06Test {
 
     public static void main(String[] args) {
         fromItsDayOn();
+        eachPart();
         byDays();
         sameDay();
         lifeAndInnerStay();
@@ -29,7 +30,7 @@ public final class Promise06Test {
     }
 
     private static void fromItsDayOn() {
-        Due.sentence("what it is from that day on: another kind and other grams");
+        Due.sentence("CHANGES tell of a part, by days, what it is from that day on: another kind and other grams");
         MaterialPassports x = onePart();
         Due.is("change", x.change(0, 50, 1, 200), true);
         isOn(x, 0, 0, 100);
@@ -83,7 +84,7 @@ public final class Promise06Test {
     }
 
     private static void lifeAndInnerStay() {
-        Due.sentence("another kind and other grams: no more than these");
+        Due.sentence("another kind and other grams", "no more than these");
         MaterialPassports x = Scene.some();
         Due.is("change", x.change(0, 0, 2, 33), true);
         Due.totals(x, 0, 0, 0, 33, 310, 67);
@@ -92,7 +93,7 @@ public final class Promise06Test {
     }
 
     private static void parts() {
-        Due.sentence("false when .. these are not such: part");
+        Due.sentence("One more change of a part ... or these are not such", "part");
         MaterialPassports x = Scene.some();
         Due.is("part 0", x.change(0, 1, 0, 1), true);
         Due.is("part 5, the last", x.change(5, 1, 0, 1), true);
@@ -102,7 +103,7 @@ public final class Promise06Test {
     }
 
     private static void days() {
-        Due.sentence("from a day 0 .. 100000 on");
+        Due.sentence("from a day 0 .. 100000 on. Answers true ... or these are not such", "day");
         for (long day : Edge.insideLongs(0, 100000)) {
             MaterialPassports x = onePart();
             Due.is("day " + day, x.change(0, day, 3, 5), true);
@@ -118,7 +119,7 @@ public final class Promise06Test {
     }
 
     private static void kinds() {
-        Due.sentence("KIND 0 .. 4");
+        Due.sentence("of a KIND 0 .. 4 ... or these are not such", "kind");
         for (int kind = 0; kind <= 4; kind++) {
             MaterialPassports x = onePart();
             Due.is("kind " + kind, x.change(0, 3, kind, 5), true);
@@ -130,7 +131,7 @@ public final class Promise06Test {
     }
 
     private static void grams() {
-        Due.sentence("grams 0 .. 1000000000");
+        Due.sentence("grams 0 .. 1000000000 ... or these are not such", "grams");
         for (long grams : Edge.insideLongs(0, MOST_GRAMS)) {
             MaterialPassports x = onePart();
             Due.is("grams " + grams, x.change(0, 3, 1, grams), true);
@@ -181,7 +182,7 @@ public final class Promise06Test {
     }
 
     private static void refusedTakesNoRoom() {
-        Due.sentence("A call that is refused changes nothing: the room for changes");
+        Due.sentence("A call that is refused changes nothing", "the room for changes");
         MaterialPassports x = onePart();
         for (int i = 0; i < 20; i++) {
             Due.is("part", x.change(1, 5, 0, 1), false);
@@ -192,5 +193,26 @@ public final class Promise06Test {
         }
         isOn(x, 5, 1, 19);
         Due.is("version", x.version(0), 21);
+    }
+
+    private static void eachPart() {
+        Due.sentence("CHANGES tell of a part", "of each, and of no other");
+        for (int first = 0; first <= 4; first += 4) {
+            MaterialPassports x = Scene.goods(8);
+            for (int number = 0; number < 24; number++) {
+                x.part(number % 8, 0, number, 1);
+            }
+            for (int good = 0; good < 8; good++) {
+                x.right(0, good, true);
+            }
+            for (int number = first; number < first + 20; number++) {
+                Due.is("before", x.seen(0, number % 8, number / 8, 0), 0);
+                Due.is("change", x.change(number, 100000 - number, 1 + number % 4, 50 + number), true);
+            }
+            for (int number = 0; number < 24; number++) {
+                boolean told = number >= first && number < first + 20;
+                Due.sees(x, 0, number % 8, number / 8, told ? 1 + number % 4 : 0, told ? 50 + number : number, 1);
+            }
+        }
     }
 }

@@ -6,12 +6,13 @@ public final class Promise07Test {
         ofAKind();
         withoutADay();
         none();
+        questionChangesNothing();
         changesNothing();
         Due.end();
     }
 
     private static void ofAKind() {
-        Due.sentence("the grams of its parts that are of that kind");
+        Due.sentence("THE TOTAL of a good, a kind ... the grams of its parts that are of that kind");
         MaterialPassports x = Scene.goods(2);
         Due.totals(x, 0, 0, 0, 0, 0, 0);
         for (int i = 0; i < 10; i++) {
@@ -26,7 +27,7 @@ public final class Promise07Test {
     }
 
     private static void withoutADay() {
-        Due.sentence("Without a day: day 100000");
+        Due.sentence("Without a day: day 100000 ... The total of a good and a kind without a day");
         MaterialPassports x = Scene.oneGood(8);
         x.change(0, 99999, 1, 9);
         Due.totals(x, 0, 0, 9, 0, 0, 0);
@@ -57,10 +58,15 @@ public final class Promise07Test {
     }
 
     private static void changesNothing() {
-        Due.sentence("NONE when there are none such; a call that is refused changes nothing");
+        Due.sentence("NONE when there are none such ... A call that is refused changes nothing");
         Refused.none("good -1", Scene::some, x -> x.total(-1, 0));
         Refused.none("good 3", Scene::some, x -> x.total(3, 0));
         Refused.none("kind -1", Scene::some, x -> x.total(0, -1));
         Refused.none("kind 5", Scene::some, x -> x.total(0, 5));
+    }
+
+    private static void questionChangesNothing() {
+        Due.sentence("Nothing is promised beyond the answers and state changes described above", "a question");
+        Refused.changesNothing("total(0, 3)", Scene::some, x -> x.total(0, 3), 310);
     }
 }

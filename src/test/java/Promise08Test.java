@@ -7,12 +7,13 @@ public final class Promise08Test {
         innerOnThatDay();
         days();
         goodsAndKinds();
+        questionChangesNothing();
         changesNothing();
         Due.end();
     }
 
     private static void lastChangeNotOfALaterDay() {
-        Due.sentence("by the last change that is not of a later day");
+        Due.sentence("and a day ... on that day (by the last change that is not of a later day)");
         MaterialPassports x = Scene.oneGood(100);
         x.change(0, 100000, 0, 7);
         x.change(0, 50, 3, 400);
@@ -67,7 +68,7 @@ public final class Promise08Test {
     }
 
     private static void goodsAndKinds() {
-        Due.sentence("NONE likewise: when there are none such");
+        Due.sentence("NONE likewise", "goods and kinds");
         MaterialPassports x = Scene.some();
         for (long day : Edge.insideLongs(0, 100000)) {
             Due.is("good 0, kind 0", x.totalOn(0, 0, day), 100);
@@ -83,12 +84,17 @@ public final class Promise08Test {
     }
 
     private static void changesNothing() {
-        Due.sentence("NONE likewise; a call that is refused changes nothing");
+        Due.sentence("NONE likewise ... A call that is refused changes nothing");
         Refused.none("good -1", Scene::some, x -> x.totalOn(-1, 0, 0));
         Refused.none("good 3", Scene::some, x -> x.totalOn(3, 0, 0));
         Refused.none("kind -1", Scene::some, x -> x.totalOn(0, -1, 0));
         Refused.none("kind 5", Scene::some, x -> x.totalOn(0, 5, 0));
         Refused.none("day -1", Scene::some, x -> x.totalOn(0, 0, -1));
         Refused.none("day 100001", Scene::some, x -> x.totalOn(0, 0, 100001));
+    }
+
+    private static void questionChangesNothing() {
+        Due.sentence("Nothing is promised beyond the answers and state changes described above", "a question");
+        Refused.changesNothing("totalOn(2, 3, 5)", Scene::some, x -> x.totalOn(2, 3, 5), 9);
     }
 }

@@ -4,6 +4,8 @@ public final class Promise09Test {
 
     public static void main(String[] args) {
         ofThatLife();
+        eachLife();
+        questionChangesNothing();
         eachPartOnce();
         onLastDay();
         nothing();
@@ -15,7 +17,7 @@ public final class Promise09Test {
     }
 
     private static void ofThatLife() {
-        Due.sentence("whose life is so many years");
+        Due.sentence("of all parts ... whose life is so many years");
         MaterialPassports x = Scene.goods(2);
         x.part(0, 0, 5, 10);
         x.part(1, 0, 7, 10);
@@ -53,7 +55,7 @@ public final class Promise09Test {
     }
 
     private static void nothing() {
-        Due.sentence("The grams of a kind: nothing");
+        Due.sentence("The grams of a kind", "nothing");
         MaterialPassports x = new MaterialPassports();
         for (int kind = 0; kind < 5; kind++) {
             Due.is("no parts, 0 years", x.frees(kind, 0), 0);
@@ -65,7 +67,7 @@ public final class Promise09Test {
     }
 
     private static void greatest() {
-        Due.sentence("The grams of a kind: the most");
+        Due.sentence("The grams of a kind", "the most");
         MaterialPassports x = Scene.goods(1);
         for (int number = 0; number < 24; number++) {
             x.part(0, 2, 1000000000L, 200);
@@ -89,7 +91,7 @@ public final class Promise09Test {
     }
 
     private static void kinds() {
-        Due.sentence("NONE when these are not such: kind");
+        Due.sentence("NONE when these are not such", "kind");
         MaterialPassports x = Scene.oneGood(1, 2, 3, 4, 5);
         for (int kind = 0; kind < 5; kind++) {
             Due.is("kind " + kind, x.frees(kind, 1), kind + 1);
@@ -101,10 +103,29 @@ public final class Promise09Test {
     }
 
     private static void changesNothing() {
-        Due.sentence("NONE when these are not such; a call that is refused changes nothing");
+        Due.sentence("NONE when these are not such ... A call that is refused changes nothing");
         Refused.none("kind -1", Scene::some, x -> x.frees(-1, 10));
         Refused.none("kind 5", Scene::some, x -> x.frees(5, 10));
         Refused.none("years -1", Scene::some, x -> x.frees(0, -1));
         Refused.none("years 201", Scene::some, x -> x.frees(0, 201));
+    }
+
+    private static void eachLife() {
+        Due.sentence("whose life is so many years, 0 .. 200", "each");
+        MaterialPassports x = Scene.oneGood(5);
+        for (int years = 0; years <= 200; years++) {
+            x.life(0, years);
+            Due.is("frees(0, " + years + ")", x.frees(0, years), 5);
+        }
+        MaterialPassports y = Scene.goods(1);
+        y.part(0, 1, 6, 100);
+        for (int years = 0; years <= 200; years++) {
+            Due.is("frees(1, " + years + ")", y.frees(1, years), years == 100 ? 6 : 0);
+        }
+    }
+
+    private static void questionChangesNothing() {
+        Due.sentence("Nothing is promised beyond the answers and state changes described above", "a question");
+        Refused.changesNothing("frees(3, 10)", Scene::some, x -> x.frees(3, 10), 310);
     }
 }

@@ -5,6 +5,8 @@ public final class Promise10Test {
     public static void main(String[] args) {
         fromZeroOn();
         byEachCallThatTells();
+        ofThatGoodAlone();
+        questionChangesNothing();
         bySwap();
         notByInnerOrOuter();
         notByRefused();
@@ -15,7 +17,7 @@ public final class Promise10Test {
     }
 
     private static void fromZeroOn() {
-        Due.sentence("A VERSION of a good rises by 1, from 0 on");
+        Due.sentence("A VERSION of a good rises by 1, from 0 on ... A good's version");
         MaterialPassports x = Scene.goods(8);
         for (int good = 0; good < 8; good++) {
             Due.is("a new good", x.version(good), 0);
@@ -132,9 +134,31 @@ public final class Promise10Test {
     }
 
     private static void changesNothing() {
-        Due.sentence("NONE when there is none such; a call that is refused changes nothing");
+        Due.sentence("NONE when there is none such ... A call that is refused changes nothing");
         Refused.none("good -1", Scene::some, x -> x.version(-1));
         Refused.none("good 3", Scene::some, x -> x.version(3));
         Refused.none("good 8", Scene::full, x -> x.version(8));
+    }
+
+    private static void ofThatGoodAlone() {
+        Due.sentence("told something of it or of one of its parts", "each good's, and no other's");
+        for (int told = 0; told < 8; told++) {
+            MaterialPassports x = Scene.full();
+            int part = told + 8;
+            int before = x.version(told);
+            Due.is("life", x.life(part, 9), true);
+            Due.is("into", told < 7 && x.into(part, 7), told < 7);
+            MaterialPassports untold = Scene.full();
+            for (int good = 0; good < 8; good++) {
+                int more = good != told ? 0 : told < 7 ? 2 : 1;
+                Due.is("version(" + good + ")", x.version(good), untold.version(good) + more);
+            }
+            Due.is("it was there before", before > 0, true);
+        }
+    }
+
+    private static void questionChangesNothing() {
+        Due.sentence("Nothing is promised beyond the answers and state changes described above", "a question");
+        Refused.changesNothing("version(0)", Scene::some, x -> x.version(0), 5);
     }
 }

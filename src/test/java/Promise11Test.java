@@ -26,7 +26,7 @@ public final class Promise11Test {
 
     private static void ofOnePersonAndGood() {
         Due.sentence("A RIGHT lets a person 0 .. 7 see a good's parts one by one");
-        for (int own = 0; own < 64; own += 9) {
+        for (int own = 0; own < 64; own++) {
             MaterialPassports x = Scene.full();
             x.right(7, 7, false);
             int person = own / 8;
@@ -41,7 +41,7 @@ public final class Promise11Test {
     }
 
     private static void beforePartsAreTold() {
-        Due.sentence("A person has a right to see a good: parts that are told later");
+        Due.sentence("A person has a right to see a good", "parts that are told later");
         MaterialPassports x = Scene.goods(1);
         Due.is("right", x.right(0, 0, true), true);
         x.part(0, 1, 5, 9);
@@ -53,7 +53,7 @@ public final class Promise11Test {
     }
 
     private static void persons() {
-        Due.sentence("a person 0 .. 7; false when there are none such");
+        Due.sentence("a person 0 .. 7 ... false when there are none such", "person");
         for (int person : Edge.inside(0, 7)) {
             MaterialPassports x = Scene.some();
             Due.is("person " + person, x.right(person, 2, true), true);
@@ -66,7 +66,7 @@ public final class Promise11Test {
     }
 
     private static void goods() {
-        Due.sentence("false when there are none such: good");
+        Due.sentence("false when there are none such", "good");
         for (int good = 0; good < 3; good++) {
             Due.is("good " + good, Scene.some().right(1, good, true), true);
         }

@@ -15,6 +15,7 @@ public final class Promise12Test {
         goods();
         parts();
         what();
+        questionChangesNothing();
         changesNothing();
         Due.end();
     }
@@ -30,7 +31,7 @@ public final class Promise12Test {
     }
 
     private static void withARight() {
-        Due.sentence("what = 0 its kind, 1 grams, 2 its life");
+        Due.sentence("What a person sees of the k-th part of a good ... what = 0 its kind, 1 grams, 2 its life");
         MaterialPassports x = twoGoods();
         x.right(7, 0, true);
         Due.sees(x, 7, 0, 0, 1, 10, 5);
@@ -40,7 +41,8 @@ public final class Promise12Test {
     }
 
     private static void masked() {
-        Due.sentence("its grams are told as of all parts of the good of its kind together, its life is not");
+        Due.sentence(
+                "a part is MASKED: its grams are told as of all parts of the good of its kind together, its life is not");
         MaterialPassports x = twoGoods();
         Due.sees(x, 3, 0, 0, 1, 40, MASKED);
         Due.sees(x, 3, 0, 1, 2, 20, MASKED);
@@ -49,7 +51,7 @@ public final class Promise12Test {
     }
 
     private static void maskedOfAll() {
-        Due.sentence("as of all parts of the good of its kind together: the most and the least");
+        Due.sentence("as of all parts of the good of its kind together", "the most and the least");
         MaterialPassports x = Scene.goods(2);
         x.part(0, 3, 0, 0);
         Due.sees(x, 0, 0, 0, 3, 0, MASKED);
@@ -61,7 +63,7 @@ public final class Promise12Test {
     }
 
     private static void notOfInner() {
-        Due.sentence("its own");
+        Due.sentence("its own", "not what its inner goods have");
         MaterialPassports x = twoGoods();
         x.into(0, 1);
         Due.sees(x, 3, 0, 0, 1, 40, MASKED);
@@ -72,7 +74,7 @@ public final class Promise12Test {
     }
 
     private static void leastLifeIsNotMasked() {
-        Due.sentence("-2 for what is masked");
+        Due.sentence("-2 for what is masked ... Without it a part is MASKED");
         MaterialPassports x = Scene.goods(1);
         x.part(0, 0, 0, 0);
         x.part(0, 4, 1000000000L, 200);
@@ -114,7 +116,7 @@ public final class Promise12Test {
     }
 
     private static void persons() {
-        Due.sentence("NONE when there are none such: person");
+        Due.sentence("NONE when there are none such", "person");
         MaterialPassports x = twoGoods();
         for (int person = 0; person < 8; person++) {
             Due.sees(x, person, 0, 0, 1, 40, MASKED, NONE);
@@ -125,7 +127,7 @@ public final class Promise12Test {
     }
 
     private static void goods() {
-        Due.sentence("NONE when there are none such: good");
+        Due.sentence("NONE when there are none such", "good");
         MaterialPassports x = twoGoods();
         Due.sees(x, 0, 1, 0, 1, 1000, MASKED, NONE);
         for (int wrong : Edge.outside(0, 1)) {
@@ -138,7 +140,7 @@ public final class Promise12Test {
     }
 
     private static void parts() {
-        Due.sentence("NONE when there are none such: the k-th part");
+        Due.sentence("NONE when there are none such", "the k-th part");
         MaterialPassports x = twoGoods();
         for (int turn = 0; turn < 2; turn++) {
             Due.is("k 0", x.seen(0, 0, 0, 0), 1);
@@ -159,7 +161,7 @@ public final class Promise12Test {
     }
 
     private static void what() {
-        Due.sentence("NONE when there are none such: what");
+        Due.sentence("NONE when there are none such", "what");
         MaterialPassports x = twoGoods();
         for (int turn = 0; turn < 2; turn++) {
             for (int wrong : Edge.outside(0, 2)) {
@@ -170,11 +172,17 @@ public final class Promise12Test {
     }
 
     private static void changesNothing() {
-        Due.sentence("NONE when there are none such; a call that is refused changes nothing");
+        Due.sentence("NONE when there are none such ... A call that is refused changes nothing");
         Refused.none("person 8", Scene::some, x -> x.seen(8, 0, 0, 1));
         Refused.none("good 3", Scene::some, x -> x.seen(0, 3, 0, 1));
         Refused.none("k 3", Scene::some, x -> x.seen(0, 0, 3, 1));
         Refused.none("what 3", Scene::some, x -> x.seen(0, 0, 0, 3));
         Refused.changesNothing("masked", Scene::some, x -> x.seen(0, 0, 0, 2), MASKED);
+    }
+
+    private static void questionChangesNothing() {
+        Due.sentence("Nothing is promised beyond the answers and state changes described above", "a question");
+        Refused.changesNothing("seen(7, 0, 0, 2)", Scene::some, x -> x.seen(7, 0, 0, 2), 10);
+        Refused.changesNothing("seen(0, 0, 0, 1)", Scene::some, x -> x.seen(0, 0, 0, 1), 100);
     }
 }

@@ -39,7 +39,7 @@ public final class Promise13Test {
     }
 
     private static void threeHundred() {
-        Due.sentence("false when .. there are 300");
+        Due.sentence("false when ... or there are 300");
         MaterialPassports x = textOf(299);
         Due.is("the 300th", x.unit('3'), true);
         Due.is("the 301st", x.unit('4'), false);
@@ -49,7 +49,7 @@ public final class Promise13Test {
     }
 
     private static void refusedChangesNothing() {
-        Due.sentence("false when .. there are 300; a call that is refused changes nothing");
+        Due.sentence("or there are 300 ... A call that is refused changes nothing");
         Refused.isFalse("the 301st", () -> textOf(300), x -> x.unit('4'));
         Refused.isFalse("the 301st, a gap", () -> textOf(300), x -> x.unit(' '));
         Refused.isFalse("no byte at 299", () -> textOf(299), x -> x.unit(256));
@@ -61,7 +61,7 @@ public final class Promise13Test {
     }
 
     private static void roomAfterWellText() {
-        Due.sentence("The text, which is empty then: when it was well");
+        Due.sentence("The text, which is empty then", "when it was well");
         MaterialPassports x = textOf(150);
         Due.is("score()", x.score(), 1);
         for (int i = 0; i < 300; i++) {
@@ -71,7 +71,7 @@ public final class Promise13Test {
     }
 
     private static void roomAfterOtherText() {
-        Due.sentence("The text, which is empty then: when it was not well");
+        Due.sentence("The text, which is empty then", "when it was not well");
         MaterialPassports x = textOf(150);
         Due.tell(x, " 8");
         Due.is("score()", x.score(), -3);
@@ -82,7 +82,7 @@ public final class Promise13Test {
     }
 
     private static void order() {
-        Due.sentence("One more byte of a text: in the order told");
+        Due.sentence("One more byte of a text", "in the order told");
         MaterialPassports x = Scene.goods(1);
         Due.tell(x, "90 1");
         Due.is("no byte between", x.unit(-1), false);

@@ -9,6 +9,7 @@ public final class Promise14Test {
         shares();
         otherWords();
         noneOfTheWords();
+        everyShortText();
         firstWordThatIsNone();
         tooFewBefore();
         moreThanOneLeft();
@@ -20,7 +21,7 @@ public final class Promise14Test {
     }
 
     private static void countsWords() {
-        Due.sentence("Answers how many words it has, if it is well");
+        Due.sentence("It is WELL when ... Answers how many words it has, if it is well");
         MaterialPassports x = Scene.goods(1);
         Due.score(x, "1", 1);
         Due.score(x, "1 2 +", 3);
@@ -30,7 +31,7 @@ public final class Promise14Test {
     }
 
     private static void noWords() {
-        Due.sentence("how many words there are, when more or less than one is left: less");
+        Due.sentence("how many words there are, when more or less than one is left", "less");
         MaterialPassports x = Scene.goods(1);
         Due.score(x, "", -1);
         Due.score(x, " ", -1);
@@ -47,7 +48,7 @@ public final class Promise14Test {
     }
 
     private static void gaps() {
-        Due.sentence("words are rows of bytes other than 32 and 10");
+        Due.sentence("THE FORMULA is a row of words in a text ... words are rows of bytes other than 32 and 10");
         MaterialPassports x = Scene.goods(1);
         Due.value(x, "4 5 -", -1);
         Due.value(x, "4\n5\n-", -1);
@@ -57,7 +58,7 @@ public final class Promise14Test {
     }
 
     private static void noGaps() {
-        Due.sentence("words are rows of bytes other than 32 and 10: of all others");
+        Due.sentence("words are rows of bytes other than 32 and 10", "of all others");
         for (int from = 0; from < 256; from += 64) {
             MaterialPassports x = Scene.goods(1);
             for (int u = from; u < from + 64; u++) {
@@ -97,7 +98,7 @@ public final class Promise14Test {
     }
 
     private static void otherWords() {
-        Due.sentence("n .. + - * (of the two before them), min, max");
+        Due.sentence("n ... + - * (of the two before them), min, max");
         MaterialPassports x = Scene.oneGood(1, 1);
         Due.value(x, "n", 2);
         Due.value(x, "7 9 +", 16);
@@ -113,8 +114,8 @@ public final class Promise14Test {
     private static void noneOfTheWords() {
         Due.sentence("the first word that is none");
         areNone("N", "nn", "n0", "m", "mi", "ma", "mn", "mix", "man", "mim", "mid", "mins", "maxx", "amx", "min1",
-                "MIN", "Max", "++", "--", "**", "+-", "/", ",", ".", "x", "\0", "\t", "\r", "\u007f", "\u00a0", "\u00ff",
-                "k0k1", "1+2", "nmin");
+                "MIN", "Max", "++", "--", "**", "+-", "/", ",", ".", "x", "\0", "\t", "\r",
+                "\u007f", "\u00a0", "\u00ff", "k0k1", "1+2", "nmin");
     }
 
     private static void areNone(String... wrong) {
@@ -144,7 +145,8 @@ public final class Promise14Test {
     }
 
     private static void tooFewBefore() {
-        Due.sentence("the first word that .. has too few before it");
+        Due.sentence(
+                "from left to right there are always enough before ... the first word that ... or has too few before it");
         MaterialPassports x = Scene.goods(1);
         for (String word : new String[] {"+", "-", "*", "min", "max"}) {
             Due.score(x, word, -1);
@@ -161,7 +163,8 @@ public final class Promise14Test {
     }
 
     private static void moreThanOneLeft() {
-        Due.sentence("how many words there are, when more or less than one is left: more");
+        Due.sentence(
+                "and one is left at the end ... how many words there are, when more or less than one is left", "more");
         MaterialPassports x = Scene.goods(1);
         Due.score(x, "1 2", -3);
         Due.score(x, "1 2 3", -4);
@@ -171,7 +174,7 @@ public final class Promise14Test {
     }
 
     private static void mostWords() {
-        Due.sentence("Answers how many words it has: in 300 bytes");
+        Due.sentence("Answers how many words it has", "in 300 bytes");
         MaterialPassports x = Scene.goods(1);
         Due.score(x, "1 ".repeat(75) + "+ ".repeat(74), 149);
         Due.is("scored(0)", x.scored(0), 75);
@@ -203,7 +206,7 @@ public final class Promise14Test {
     }
 
     private static void textIsEmptyThen() {
-        Due.sentence("The text, which is empty then");
+        Due.sentence("The text, which is empty then, tells the formula");
         MaterialPassports x = Scene.goods(1);
         Due.score(x, "1", 1);
         Due.is("score() again", x.score(), -1);
@@ -215,7 +218,7 @@ public final class Promise14Test {
     }
 
     private static void notWellChangesNothingElse() {
-        Due.sentence("else -1 less ..: the formula stays; a call that is refused changes nothing");
+        Due.sentence("the formula stays ... A call that is refused changes nothing");
         // the text of this scene is read first, so that the refused score() finds an empty one
         Refused.changesNothing("score() of nothing", Promise14Test::textRead, MaterialPassports::score, -1);
         Refused.changesNothing("score() of '+'", Promise14Test::textRead, x -> {
@@ -234,5 +237,30 @@ public final class Promise14Test {
         MaterialPassports x = Scene.some();
         Due.is("score()", x.score(), -3);
         return x;
+    }
+
+    private static void everyShortText() {
+        Due.sentence("THE FORMULA is a row of words in a text", "every text of up to four of these letters");
+        char[] letters = {'k', 'n', 'm', 'i', 'a', 'x', '0', '4', '5', '9', '+', '-', '*', ' ', '\n', '\0'};
+        int count = 1;
+        for (int length = 0; length <= 4; length++) {
+            for (int which = 0; which < count; which++) {
+                likeTheModel(letters, length, which);
+            }
+            count *= letters.length;
+        }
+    }
+
+    private static void likeTheModel(char[] letters, int length, int which) {
+        MaterialPassports x = new MaterialPassports();
+        Model model = new Model();
+        StringBuilder text = new StringBuilder();
+        for (int rest = which; text.length() < length; rest /= letters.length) {
+            char letter = letters[rest % letters.length];
+            text.append(letter);
+            x.unit(letter);
+            model.unit(letter);
+        }
+        Due.is("score() of '" + text + "'", x.score(), model.score());
     }
 }

@@ -12,6 +12,8 @@ public final class Promise15Test {
         noFormula();
         noSuchGood();
         changesNothing();
+        ofEachGood();
+        questionChangesNothing();
         sharesDown();
         shareOfNothing();
         shareOfTheMost();
@@ -40,7 +42,7 @@ public final class Promise15Test {
     }
 
     private static void noSuchGood() {
-        Due.sentence("Long.MIN_VALUE when there is .. no such good");
+        Due.sentence("Long.MIN_VALUE when ... or no such good");
         for (int count = 0; count <= 8; count++) {
             MaterialPassports x = Scene.goods(count);
             Due.score(x, "4", 1);
@@ -54,7 +56,7 @@ public final class Promise15Test {
     }
 
     private static void changesNothing() {
-        Due.sentence("Long.MIN_VALUE ..; a call that is refused changes nothing");
+        Due.sentence("Long.MIN_VALUE ... A call that is refused changes nothing");
         Refused.changesNothing("good -1", Scene::some, x -> x.scored(-1), Long.MIN_VALUE);
         Refused.changesNothing("good 3", Scene::some, x -> x.scored(3), Long.MIN_VALUE);
         Refused.changesNothing("no formula", () -> Scene.oneGood(1), x -> x.scored(0), Long.MIN_VALUE);
@@ -93,7 +95,7 @@ public final class Promise15Test {
     }
 
     private static void shareOfTheMost() {
-        Due.sentence("1000 times its total over that of all kinds: the greatest totals");
+        Due.sentence("1000 times its total over that of all kinds", "the greatest totals");
         MaterialPassports x = Scene.goods(8);
         for (int number = 0; number < 24; number++) {
             x.part(number / 3, number % 3 == 0 ? 1 : 4, 1000000000L, 9);
@@ -107,7 +109,7 @@ public final class Promise15Test {
     }
 
     private static void sharesWithInner() {
-        Due.sentence("1000 times its total over that of all kinds: with inner goods");
+        Due.sentence("1000 times its total over that of all kinds", "with inner goods");
         MaterialPassports x = Scene.goods(2);
         x.part(0, 0, 1, 1);
         x.part(1, 2, 3, 1);
@@ -119,7 +121,7 @@ public final class Promise15Test {
     }
 
     private static void sharesOfLastDay() {
-        Due.sentence("its total: without a day");
+        Due.sentence("1000 times its total", "without a day");
         MaterialPassports x = Scene.oneGood(1, 1);
         x.change(0, 99999, 2, 3);
         Due.value(x, "k2", 750);
@@ -188,7 +190,7 @@ public final class Promise15Test {
     }
 
     private static void productsThatWrap() {
-        Due.sentence("products are cut: beyond the longs too");
+        Due.sentence("Its value are longs ... products are cut", "beyond the longs too");
         valueIs(TOP + " " + TOP + " *", BOUND);
         valueIs(TOP + " " + BOTTOM + " *", -BOUND);
         valueIs(BOTTOM + " " + TOP + " *", -BOUND);
@@ -203,7 +205,7 @@ public final class Promise15Test {
     }
 
     private static void sumsCut() {
-        Due.sentence("sums .. are cut to -1000000000000 .. 1000000000000");
+        Due.sentence("sums ... are cut to -1000000000000 .. 1000000000000");
         valueIs(BELOW_TOP + " 0 +", BOUND - 1);
         valueIs(BELOW_TOP + " 1 +", BOUND);
         valueIs(BELOW_TOP + " 2 +", BOUND);
@@ -216,7 +218,7 @@ public final class Promise15Test {
     }
 
     private static void differencesCut() {
-        Due.sentence("sums .. are cut: differences as sums with what is less than nothing");
+        Due.sentence("sums ... are cut", "differences as sums with what is less than nothing");
         valueIs(BELOW_TOP + " 0 1 - -", BOUND);
         valueIs(BELOW_TOP + " 0 2 - -", BOUND);
         valueIs(TOP + " " + BOTTOM + " -", BOUND);
@@ -227,7 +229,7 @@ public final class Promise15Test {
     }
 
     private static void eachCut() {
-        Due.sentence("cut .., each");
+        Due.sentence("sums and products are cut to -1000000000000 .. 1000000000000, each");
         valueIs(ABOVE_TOP + " 1 -", BOUND - 1);
         valueIs(TOP + " 1 + 1 -", BOUND - 1);
         valueIs(TOP + " " + TOP + " + " + TOP + " -", 0);
@@ -237,10 +239,31 @@ public final class Promise15Test {
     }
 
     private static void leastAndGreatest() {
-        Due.sentence("min, max: at the cuts");
+        Due.sentence("min, max", "at the cuts");
         valueIs(TOP + " " + BOTTOM + " min", -BOUND);
         valueIs(TOP + " " + BOTTOM + " max", BOUND);
         valueIs(TOP + " " + BELOW_TOP + " min", BOUND - 1);
         valueIs(TOP + " " + BELOW_TOP + " max", BOUND);
+    }
+
+    private static void ofEachGood() {
+        Due.sentence("The formula's value for a good", "each");
+        MaterialPassports x = Scene.goods(8);
+        for (int good = 0; good < 8; good++) {
+            x.part(good, 0, 10, 1);
+            x.part(good, 1, 1 + good, 1);
+            x.part(good % 3, 2, 0, 1);
+        }
+        Due.score(x, "k1 10 * n +", 5);
+        // 1 of 11 grams, 2 of 12, .. 8 of 18; five, five, four parts, then two each
+        long[] due = {905, 1665, 2304, 2852, 3332, 3752, 4112, 4442};
+        for (int good = 0; good < 8; good++) {
+            Due.is("scored(" + good + ")", x.scored(good), due[good]);
+        }
+    }
+
+    private static void questionChangesNothing() {
+        Due.sentence("Nothing is promised beyond the answers and state changes described above", "a question");
+        Refused.changesNothing("scored(0)", Scene::some, x -> x.scored(0), 646);
     }
 }

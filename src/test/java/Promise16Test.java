@@ -1,9 +1,12 @@
+import java.util.stream.LongStream;
+
 /** Promise 16: swap. */
 public final class Promise16Test {
     private static final int NONE = MaterialPassports.NONE;
 
     public static void main(String[] args) {
         greaterByOne();
+        eachPart();
         theSame();
         less();
         zeroChangesNothing();
@@ -28,7 +31,7 @@ public final class Promise16Test {
     }
 
     private static void greaterByOne() {
-        Due.sentence("Whether the score of its good would be greater .. Answers 1");
+        Due.sentence("Whether the score of its good would be greater ... Answers 1");
         MaterialPassports x = scored("k2", 1, 999);
         Due.is("from 0 to 1", x.swap(0, 2), 1);
         Due.is("scored(0)", x.scored(0), 1);
@@ -44,7 +47,7 @@ public final class Promise16Test {
     }
 
     private static void theSame() {
-        Due.sentence("or 0 when not: as great as before");
+        Due.sentence("or 0 when not", "as great as before");
         Due.is("1 of 1001 grams", scored("k2", 1, 1000).swap(0, 2), 0);
         Due.is("its own kind", scored("k0", 1, 999).swap(0, 0), 0);
         Due.is("its own kind, all of it", scored("k0", 1).swap(0, 0), 0);
@@ -58,14 +61,14 @@ public final class Promise16Test {
     }
 
     private static void less() {
-        Due.sentence("or 0 when not: less");
+        Due.sentence("or 0 when not", "less");
         Due.is("from 1 to 0", scored("k0", 1, 999).swap(0, 1), 0);
         Due.is("from 1000 to 0", scored("k0", 5).swap(0, 4), 0);
         Due.is("from 0 to -1", scored("0 k2 -", 1, 999).swap(0, 2), 0);
     }
 
     private static void zeroChangesNothing() {
-        Due.sentence("if so, it is so: not else");
+        Due.sentence("if so, it is so", "not else");
         Refused.changesNothing("the same", Scene::some, x -> x.swap(4, 4), 0);
         Refused.changesNothing("less", Scene::some, x -> x.swap(1, 0), 0);
         Refused.changesNothing("no grams", Scene::some, x -> x.swap(3, 3), 0);
@@ -104,7 +107,7 @@ public final class Promise16Test {
     }
 
     private static void behindChangesOfThatDay() {
-        Due.sentence("of the same day the one told last counts: a swap too");
+        Due.sentence("of the same day the one told last counts", "a swap too");
         MaterialPassports x = scored("k4", 30, 70);
         x.change(0, 100000, 3, 60);
         Due.is("swap", x.swap(0, 4), 1);
@@ -138,7 +141,7 @@ public final class Promise16Test {
     }
 
     private static void innerStays() {
-        Due.sentence("if a part were of another kind: its inner good stays");
+        Due.sentence("if a part were of another kind", "its inner good stays");
         MaterialPassports x = Scene.goods(2);
         x.part(0, 0, 10, 1);
         x.part(1, 1, 10, 1);
@@ -150,7 +153,7 @@ public final class Promise16Test {
     }
 
     private static void noFormula() {
-        Due.sentence("NONE when .. there is no formula");
+        Due.sentence("NONE when ... there is no formula");
         Refused.none("no formula", () -> Scene.oneGood(5, 6), x -> x.swap(0, 1));
         Refused.none("a text not read", () -> {
             MaterialPassports x = Scene.oneGood(5, 6);
@@ -160,7 +163,7 @@ public final class Promise16Test {
     }
 
     private static void parts() {
-        Due.sentence("NONE when there are none such: part");
+        Due.sentence("NONE when there are none such", "part");
         MaterialPassports x = scored("k3", 1, 1, 1);
         Due.is("part 0", x.swap(0, 3), 1);
         Due.is("part 2, the last", x.swap(2, 3), 1);
@@ -170,7 +173,7 @@ public final class Promise16Test {
     }
 
     private static void kinds() {
-        Due.sentence("NONE when there are none such: kind");
+        Due.sentence("NONE when there are none such", "kind");
         Due.is("kind 0", scored("k0", 0, 5).swap(1, 0), 1);
         Due.is("kind 1", scored("k1", 5, 0).swap(0, 1), 1);
         Due.is("kind 3", scored("k3", 5, 0).swap(0, 3), 1);
@@ -189,7 +192,7 @@ public final class Promise16Test {
     }
 
     private static void twentyChanges() {
-        Due.sentence("NONE when .. there are 20 changes");
+        Due.sentence("NONE when ... or there are 20 changes");
         Due.is("18, greater", changed(18).swap(0, 1), 1);
         Due.is("19, greater", changed(19).swap(0, 1), 1);
         Due.is("19, the same", changed(19).swap(0, 2), 0);
@@ -216,5 +219,26 @@ public final class Promise16Test {
         MaterialPassports z = changed(19);
         Due.is("not greater", z.swap(0, 2), 0);
         Due.is("the 20th", z.change(0, 0, 3, 1), true);
+    }
+
+    private static void eachPart() {
+        Due.sentence("if a part were of another kind ... if so, it is so", "each part, and no other");
+        for (int first = 0; first <= 4; first += 4) {
+            MaterialPassports x = Scene.goods(8);
+            for (int number = 0; number < 24; number++) {
+                x.part(number % 8, 0, 100 + number, 1);
+            }
+            Due.score(x, "k3", 1);
+            long[] swapped = new long[8];
+            for (int number = first; number < first + 20; number++) {
+                int good = number % 8;
+                Due.is("swap", x.swap(number, 3), 1);
+                swapped[good] += 100 + number;
+                for (int other = 0; other < 8; other++) {
+                    Due.is("total(" + other + ", 3)", x.total(other, 3), swapped[other]);
+                }
+                Due.is("frees(3, 1)", x.frees(3, 1), LongStream.of(swapped).sum());
+            }
+        }
     }
 }

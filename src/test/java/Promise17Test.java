@@ -11,6 +11,8 @@ public final class Promise17Test {
     public static void main(String[] args) {
         withoutParts();
         byTotals();
+        ofEachGood();
+        questionChangesNothing();
         byGreatestTotals();
         byVersion();
         bytesInOrder();
@@ -40,14 +42,14 @@ public final class Promise17Test {
     }
 
     private static void withoutParts() {
-        Due.sentence("x is the key; for each kind: nothing of any kind, version 0");
+        Due.sentence("of a good's mark by a key: x is the key; for each kind", "nothing of any kind, version 0");
         MaterialPassports x = Scene.goods(8);
         marks(x, 0, 0, 0, 0, 0, 0, 0);
         marks(x, 7, 0, 0, 0, 0, 0, 0);
     }
 
     private static void byTotals() {
-        Due.sentence("x + the good's total of it + 1");
+        Due.sentence("x becomes (x + the good's total of it + 1) * 6364136223846793005, then x ^ (x >>> 32)");
         MaterialPassports x = Scene.some();
         marks(x, 0, 5, 100, 0, 0, 310, 67);
         marks(x, 1, 3, 0, 0, 0, 0, 60);
@@ -56,7 +58,7 @@ public final class Promise17Test {
     }
 
     private static void byGreatestTotals() {
-        Due.sentence("x + the good's total of it + 1: the greatest totals");
+        Due.sentence("x + the good's total of it + 1", "the greatest totals");
         MaterialPassports x = Scene.goods(8);
         for (int number = 0; number < 24; number++) {
             x.part(number / 3, number % 3, 1000000000L, 9);
@@ -94,7 +96,7 @@ public final class Promise17Test {
     }
 
     private static void bytes() {
-        Due.sentence("Byte i, 0 .. 7 .. NONE when there are none such");
+        Due.sentence("Byte i, 0 .. 7 ... NONE when there are none such", "byte");
         MaterialPassports x = Scene.some();
         for (long key : KEYS) {
             for (int i = 0; i < 8; i++) {
@@ -107,7 +109,7 @@ public final class Promise17Test {
     }
 
     private static void goods() {
-        Due.sentence("NONE when there are none such: good");
+        Due.sentence("NONE when there are none such", "good");
         MaterialPassports x = Scene.some();
         for (int i = 0; i < 8; i++) {
             Due.is("good 0", x.mark(0, 5, i) >= 0, true);
@@ -120,10 +122,28 @@ public final class Promise17Test {
     }
 
     private static void changesNothing() {
-        Due.sentence("NONE when there are none such; a call that is refused changes nothing");
+        Due.sentence("NONE when there are none such ... A call that is refused changes nothing");
         Refused.none("good -1", Scene::some, x -> x.mark(-1, 5, 0));
         Refused.none("good 3", Scene::some, x -> x.mark(3, 5, 0));
         Refused.none("byte -1", Scene::some, x -> x.mark(0, 5, -1));
         Refused.none("byte 8", Scene::some, x -> x.mark(0, 5, 8));
+    }
+
+    private static void ofEachGood() {
+        Due.sentence("of a good's mark by a key", "each good's");
+        for (int good = 0; good < 8; good++) {
+            MaterialPassports x = Scene.full();
+            long[] totals = new long[5];
+            for (int kind = 0; kind < 5; kind++) {
+                totals[kind] = x.total(good, kind);
+            }
+            marks(x, good, x.version(good), totals);
+        }
+    }
+
+    private static void questionChangesNothing() {
+        Due.sentence("Nothing is promised beyond the answers and state changes described above", "a question");
+        int one = Scene.some().mark(0, 5, 0);
+        Refused.changesNothing("mark(0, 5, 0)", Scene::some, x -> x.mark(0, 5, 0), one);
     }
 }

@@ -5,6 +5,8 @@ public final class Promise18Test {
     public static void main(String[] args) {
         mostFirst();
         ofTheSame();
+        everyOrder();
+        questionChangesNothing();
         nothingLeftOut();
         eachPartOnce();
         onLastDay();
@@ -83,7 +85,7 @@ public final class Promise18Test {
     }
 
     private static void greatest() {
-        Due.sentence("by how much of it: more than ints hold");
+        Due.sentence("by how much of it", "more than ints hold");
         MaterialPassports x = Scene.goods(1);
         x.part(0, 4, 1000000000L, 1);
         for (int number = 1; number < 6; number++) {
@@ -96,7 +98,7 @@ public final class Promise18Test {
     }
 
     private static void none() {
-        Due.sentence("The k-th kind, from 0 on .. NONE when there is none such");
+        Due.sentence("The k-th kind, from 0 on ... NONE when there is none such");
         MaterialPassports x = Scene.oneGood(5, 4, 3, 2, 1);
         Due.is("most(-1)", x.most(-1), NONE);
         Due.is("most(0)", x.most(0), 0);
@@ -105,9 +107,33 @@ public final class Promise18Test {
     }
 
     private static void changesNothing() {
-        Due.sentence("NONE when there is none such; a call that is refused changes nothing");
+        Due.sentence("NONE when there is none such ... A call that is refused changes nothing");
         Refused.none("most(-1)", Scene::some, x -> x.most(-1));
         Refused.none("most(5)", Scene::full, x -> x.most(5));
         Refused.none("most(0) of nothing", () -> Scene.goods(1), x -> x.most(0));
+    }
+
+    private static void everyOrder() {
+        Due.sentence(
+                "the most first, of the same the lesser kind; those of which there is nothing left out", "every order");
+        for (int which = 0; which < 3125; which++) {
+            long[] grams = {which % 5, which / 5 % 5, which / 25 % 5, which / 125 % 5, which / 625};
+            MaterialPassports x = Scene.oneGood(grams);
+            int k = 0;
+            for (int most = 4; most > 0; most--) {
+                for (int kind = 0; kind < 5; kind++) {
+                    if (grams[kind] == most) {
+                        Due.is("most(" + k + ")", x.most(k), kind);
+                        k++;
+                    }
+                }
+            }
+            Due.is("most(" + k + ")", x.most(k), NONE);
+        }
+    }
+
+    private static void questionChangesNothing() {
+        Due.sentence("Nothing is promised beyond the answers and state changes described above", "a question");
+        Refused.changesNothing("most(0)", Scene::some, x -> x.most(0), 3);
     }
 }
